@@ -1,11 +1,5 @@
 /** Promises 1 to 9: a new object, and the calls that change a track. */
 public final class ChangeTest {
-    private static final int MIN = Integer.MIN_VALUE;
-    private static final int MAX = Integer.MAX_VALUE;
-    private static final int[] BAD_TRACKS = {-1, 3, MIN, MAX};
-    // (0, 0), below 0, (1, 0), (1, 1), (64, 0), (64, 64), (65, 0), (65, 1), and the far ends.
-    private static final int[] BAD_STRETCHES = {0, -1, -64, 65, 66, 4160, 4224, 4225, 4226, MIN, MAX};
-
     public static void main(String[] args) {
         promise1NewObject();
         promise2Add();
@@ -73,11 +67,11 @@ public final class ChangeTest {
     private static void promise2AddRefusals() {
         TrackAlgebra x = Due.with(Due.st(3, 8));
         String before = Due.state(x);
-        for (int t : BAD_TRACKS) {
+        for (int t : Due.BAD_TRACKS) {
             Due.answer("add(" + t + ", 1)", x.add(t, 1), -1);
             Due.answer("add(" + t + ", 0)", x.add(t, 0), -1);
         }
-        for (int stretch : BAD_STRETCHES) {
+        for (int stretch : Due.BAD_STRETCHES) {
             Due.answer("add(0, " + stretch + ")", x.add(0, stretch), -2);
         }
         for (int stretch = -200; stretch <= 65 * 70; stretch++) {
@@ -137,19 +131,19 @@ public final class ChangeTest {
     private static void promise3RepeatRefusals() {
         TrackAlgebra x = Due.with(Due.st(3, 8));
         String before = Due.state(x);
-        for (int t : BAD_TRACKS) {
+        for (int t : Due.BAD_TRACKS) {
             Due.answer("repeat on track " + t, x.repeat(t, 1, 1, 1), -1);
             Due.answer("repeat, all bad", x.repeat(t, 0, 65, 0), -1);
         }
-        for (int stretch : BAD_STRETCHES) {
+        for (int stretch : Due.BAD_STRETCHES) {
             Due.answer("repeat of " + stretch, x.repeat(0, stretch, 1, 1), -2);
             Due.answer("repeat, all but the track bad", x.repeat(0, stretch, -65, 33), -2);
         }
-        for (int step : new int[] {-65, 65, MIN, MAX}) {
+        for (int step : new int[] {-65, 65, Due.MIN, Due.MAX}) {
             Due.answer("repeat by " + step, x.repeat(0, 1, step, 1), -3);
             Due.answer("repeat, step and count bad", x.repeat(0, 1, step, 0), -3);
         }
-        for (int count : new int[] {0, 33, -1, MIN, MAX}) {
+        for (int count : new int[] {0, 33, -1, Due.MIN, Due.MAX}) {
             Due.answer("repeat, count " + count, x.repeat(0, 1, 64, count), -4);
             Due.answer("repeat, count " + count, x.repeat(0, 1, -64, count), -4);
         }
@@ -182,11 +176,11 @@ public final class ChangeTest {
     private static void promise4RemoveRefusals() {
         TrackAlgebra x = Due.with(Due.st(3, 8), Due.st(4, 5));
         String before = Due.state(x);
-        for (int t : BAD_TRACKS) {
+        for (int t : Due.BAD_TRACKS) {
             Due.answer("remove(" + t + ", 0)", x.remove(t, 0), -1);
             Due.answer("remove(" + t + ", -1)", x.remove(t, -1), -1);
         }
-        for (int i : new int[] {-1, 2, 32, 64, MIN, MAX}) {
+        for (int i : new int[] {-1, 2, 32, 64, Due.MIN, Due.MAX}) {
             Due.answer("remove(0, " + i + ")", x.remove(0, i), -2);
         }
         Due.answer("remove from an empty track", x.remove(1, 0), -2);
@@ -220,11 +214,11 @@ public final class ChangeTest {
     private static void promise5ClearRefusals() {
         TrackAlgebra x = Due.with(Due.st(3, 8), Due.st(0, 1));
         String before = Due.state(x);
-        for (int t : BAD_TRACKS) {
+        for (int t : Due.BAD_TRACKS) {
             Due.answer("clear(" + t + ", 64)", x.clear(t, 64), -1);
             Due.answer("clear(" + t + ", 0)", x.clear(t, 0), -1);
         }
-        for (int stretch : BAD_STRETCHES) {
+        for (int stretch : Due.BAD_STRETCHES) {
             Due.answer("clear(0, " + stretch + ")", x.clear(0, stretch), -2);
             Due.answer("clear(1, " + stretch + ")", x.clear(1, stretch), -2);
         }
@@ -253,7 +247,7 @@ public final class ChangeTest {
         Due.track("merge of the whole line", y, 1, Due.st(0, 64));
 
         String before = Due.state(y);
-        for (int t : BAD_TRACKS) {
+        for (int t : Due.BAD_TRACKS) {
             Due.answer("merge(" + t + ")", y.merge(t), -1);
         }
         Due.unchanged("refused merge", y, before);
@@ -314,12 +308,12 @@ public final class ChangeTest {
     private static void promise7JoinRefusals() {
         TrackAlgebra x = twoTracks();
         String before = Due.state(x);
-        for (int kind : new int[] {-1, 4, MIN, MAX}) {
+        for (int kind : new int[] {-1, 4, Due.MIN, Due.MAX}) {
             Due.answer("join(" + kind + ", 0, 1)", x.join(kind, 0, 1), -1);
             Due.answer("join(" + kind + ", 3, 1)", x.join(kind, 3, 1), -1);
             Due.answer("join(" + kind + ", 0, -1)", x.join(kind, 0, -1), -1);
         }
-        for (int t : BAD_TRACKS) {
+        for (int t : Due.BAD_TRACKS) {
             for (int kind = 0; kind < 4; kind++) {
                 Due.answer("join(" + kind + ", " + t + ", 0)", x.join(kind, t, 0), -2);
                 Due.answer("join(" + kind + ", 0, " + t + ")", x.join(kind, 0, t), -2);
@@ -350,7 +344,7 @@ public final class ChangeTest {
         Due.answer("its last", x.stretch(2, 30), Due.st(62, 64));
 
         String before = Due.state(x);
-        for (int t : BAD_TRACKS) {
+        for (int t : Due.BAD_TRACKS) {
             Due.answer("complement(" + t + ")", x.complement(t), -1);
         }
         Due.unchanged("refused complement", x, before);
@@ -369,7 +363,7 @@ public final class ChangeTest {
         Due.answer("copy of itself", x.copy(1, 1), 4);
         Due.unchanged("copy of itself", x, before);
 
-        for (int t : BAD_TRACKS) {
+        for (int t : Due.BAD_TRACKS) {
             Due.answer("copy(" + t + ", 0)", x.copy(t, 0), -1);
             Due.answer("copy(0, " + t + ")", x.copy(0, t), -1);
             Due.answer("copy(" + t + ", " + t + ")", x.copy(t, t), -1);

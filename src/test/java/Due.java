@@ -1,5 +1,11 @@
-/** What the project's tests share: answers held against those that are due, and a look at all tracks. */
+/** What the project's tests share: wrong inputs, answers held against those that are due, and a look at all tracks. */
 final class Due {
+    static final int MIN = Integer.MIN_VALUE;
+    static final int MAX = Integer.MAX_VALUE;
+    static final int[] BAD_TRACKS = {-1, 3, MIN, MAX};
+    // (0, 0), below 0, (1, 0), (1, 1), (64, 0), (64, 64), (65, 0), (65, 1), and the far ends.
+    static final int[] BAD_STRETCHES = {0, -1, -64, 65, 66, 4160, 4224, 4225, 4226, MIN, MAX};
+
     private static int wrong = 0;
 
     private Due() {

@@ -1,11 +1,5 @@
 /** Promises 10 to 21: the questions. */
 public final class QuestionTest {
-    private static final int MIN = Integer.MIN_VALUE;
-    private static final int MAX = Integer.MAX_VALUE;
-    private static final int[] BAD_TRACKS = {-1, 3, MIN, MAX};
-    // (0, 0), below 0, (1, 0), (1, 1), (64, 0), (64, 64), (65, 0), (65, 1), and the far ends.
-    private static final int[] BAD_STRETCHES = {0, -1, -64, 65, 66, 4160, 4224, 4225, 4226, MIN, MAX};
-
     public static void main(String[] args) {
         promise10Size();
         promise11Stretch();
@@ -58,7 +52,7 @@ public final class QuestionTest {
         for (int i = 0; i < want.length; i++) {
             Due.answer("stretch(0, " + i + ")", x.stretch(0, i), want[i]);
         }
-        for (int i : new int[] {-1, 6, 31, 32, 33, MIN, MAX}) {
+        for (int i : new int[] {-1, 6, 31, 32, 33, Due.MIN, Due.MAX}) {
             Due.answer("stretch(0, " + i + ")", x.stretch(0, i), -2);
         }
         Due.answer("stretch of an empty track", x.stretch(2, 0), -2);
@@ -98,9 +92,11 @@ public final class QuestionTest {
         Due.answer("overlap of (31, 64), 1", x.overlap(0, Due.st(31, 64), 1), 5);
         Due.answer("overlap of (31, 64), 2", x.overlap(0, Due.st(31, 64), 2), -3);
         Due.answer("overlap of touching ones", x.overlap(0, Due.st(20, 30), 0), -3);
-        for (int k : new int[] {-1, 6, 32, MIN, MAX}) {
+        for (int k : new int[] {-1, 6, 32, Due.MIN, Due.MAX}) {
             Due.answer("overlap of the line, " + k, x.overlap(0, Due.st(0, 64), k), -3);
         }
+        Due.answer("overlap(1, (11, 13), 0)", x.overlap(1, Due.st(11, 13), 0), 1);
+        Due.answer("overlap(1, (11, 13), 1)", x.overlap(1, Due.st(11, 13), 1), 2);
         Due.answer("overlap of an empty track", x.overlap(2, Due.st(0, 64), 0), -3);
         Due.answer("the last overlap of a full track", full().overlap(1, Due.st(0, 64), 31), 31);
         Due.answer("one more overlap of a full track", full().overlap(1, Due.st(0, 64), 32), -3);
@@ -132,7 +128,7 @@ public final class QuestionTest {
         for (int[] row : want) {
             Due.answer("depth(0, " + row[0] + ")", x.depth(0, row[0]), row[1]);
         }
-        for (int position : new int[] {-1, 64, MIN, MAX}) {
+        for (int position : new int[] {-1, 64, Due.MIN, Due.MAX}) {
             Due.answer("depth(0, " + position + ")", x.depth(0, position), -2);
             Due.answer("depth(3, " + position + ")", x.depth(3, position), -1);
         }
@@ -160,7 +156,7 @@ public final class QuestionTest {
             Due.answer("covered(0, " + d + ")", x.covered(0, d), want[d]);
         }
         Due.answer("covered(0, 32)", x.covered(0, 32), 0);
-        for (int d : new int[] {-1, 33, MIN, MAX}) {
+        for (int d : new int[] {-1, 33, Due.MIN, Due.MAX}) {
             Due.answer("covered(0, " + d + ")", x.covered(0, d), -2);
             Due.answer("covered(3, " + d + ")", x.covered(3, d), -1);
         }
@@ -179,6 +175,8 @@ public final class QuestionTest {
         Due.answer("closest to (50, 60)", x.closest(0, Due.st(50, 60)), 5);
         Due.answer("closest to (45, 52)", x.closest(0, Due.st(45, 52)), 4);
         Due.answer("closest to (63, 64)", x.closest(0, Due.st(63, 64)), 5);
+        Due.answer("closest on track 1 to (50, 51)", x.closest(1, Due.st(50, 51)), 2);
+        Due.answer("closest on track 1 to (7, 8)", x.closest(1, Due.st(7, 8)), 0);
         Due.answer("closest, farthest apart", Due.with(Due.st(0, 1)).closest(0, Due.st(63, 64)), 0);
         Due.answer("closest, farthest apart", Due.with(Due.st(63, 64)).closest(0, Due.st(0, 1)), 0);
         for (int s = 0; s < 64; s++) {
@@ -221,6 +219,8 @@ public final class QuestionTest {
         Due.answer("distance of (26, 29)", x.distance(0, Due.st(26, 29)), 1);
         Due.answer("distance of (9, 10): overlapping", x.distance(0, Due.st(9, 10)), 0);
         Due.answer("distance of the line", x.distance(0, Due.st(0, 64)), 0);
+        Due.answer("distance on track 1 of (50, 51)", x.distance(1, Due.st(50, 51)), 19);
+        Due.answer("distance on track 1 of (7, 8)", x.distance(1, Due.st(7, 8)), 1);
         Due.answer("distance, farthest apart", Due.with(Due.st(0, 1)).distance(0, Due.st(63, 64)), 62);
         Due.answer("distance, farthest apart", Due.with(Due.st(63, 64)).distance(0, Due.st(0, 1)), 62);
         Due.answer("distance, empty track", x.distance(2, 1), -3);
@@ -259,7 +259,7 @@ public final class QuestionTest {
 
     private static void refusalsOfBadTracks() {
         TrackAlgebra x = sample();
-        for (int t : BAD_TRACKS) {
+        for (int t : Due.BAD_TRACKS) {
             Due.answer("size(" + t + ")", x.size(t), -1);
             Due.answer("stretch(" + t + ", 0)", x.stretch(t, 0), -1);
             Due.answer("stretch(" + t + ", -1)", x.stretch(t, -1), -1);
@@ -284,7 +284,7 @@ public final class QuestionTest {
 
     private static void refusalsOfBadStretches() {
         TrackAlgebra x = sample();
-        for (int stretch : BAD_STRETCHES) {
+        for (int stretch : Due.BAD_STRETCHES) {
             // Track 2 is empty: a bad stretch is told before that.
             for (int t : new int[] {0, 2}) {
                 String rest = "(" + t + ", " + stretch + ")";
