@@ -79,7 +79,7 @@ public final class ChangeTest {
             int want = good ? 1 : -2;
             Due.answer("add(2, " + stretch + ")", new TrackAlgebra().add(2, stretch), want);
         }
-        Due.unchanged("refused add", x, before);
+        Due.holds("refused add", x, before);
 
         TrackAlgebra full = new TrackAlgebra();
         for (int n = 1; n <= 32; n++) {
@@ -89,7 +89,7 @@ public final class ChangeTest {
         Due.answer("add to a full track", full.add(1, 1), -3);
         Due.answer("add of a bad stretch to a full track", full.add(1, 0), -2);
         Due.answer("add to a bad track beside a full one", full.add(3, 1), -1);
-        Due.unchanged("refused add", full, before);
+        Due.holds("refused add", full, before);
         Due.answer("add beside a full track", full.add(0, 1), 1);
         Due.answer("add beside a full track", full.add(2, 1), 1);
     }
@@ -123,7 +123,7 @@ public final class ChangeTest {
         Due.answer("first that stayed", y.stretch(0, 1), Due.st(1, 2));
         String before = Due.state(y);
         Due.answer("repeat on a full track", y.repeat(0, 1, 0, 1), 32);
-        Due.unchanged("repeat on a full track", y, before);
+        Due.holds("repeat on a full track", y, before);
         Due.answer("repeat beside a full track", y.repeat(1, 1, 0, 32), 32);
         Due.answer("repeat beside full tracks", y.repeat(2, 1, 2, 32), 32);
     }
@@ -147,7 +147,7 @@ public final class ChangeTest {
             Due.answer("repeat, count " + count, x.repeat(0, 1, 64, count), -4);
             Due.answer("repeat, count " + count, x.repeat(0, 1, -64, count), -4);
         }
-        Due.unchanged("refused repeat", x, before);
+        Due.holds("refused repeat", x, before);
     }
 
     private static void promise4Remove() {
@@ -184,7 +184,7 @@ public final class ChangeTest {
             Due.answer("remove(0, " + i + ")", x.remove(0, i), -2);
         }
         Due.answer("remove from an empty track", x.remove(1, 0), -2);
-        Due.unchanged("refused remove", x, before);
+        Due.holds("refused remove", x, before);
     }
 
     private static void promise5Clear() {
@@ -222,7 +222,7 @@ public final class ChangeTest {
             Due.answer("clear(0, " + stretch + ")", x.clear(0, stretch), -2);
             Due.answer("clear(1, " + stretch + ")", x.clear(1, stretch), -2);
         }
-        Due.unchanged("refused clear", x, before);
+        Due.holds("refused clear", x, before);
     }
 
     private static void promise6Merge() {
@@ -250,7 +250,7 @@ public final class ChangeTest {
         for (int t : Due.BAD_TRACKS) {
             Due.answer("merge(" + t + ")", y.merge(t), -1);
         }
-        Due.unchanged("refused merge", y, before);
+        Due.holds("refused merge", y, before);
     }
 
     private static TrackAlgebra twoTracks() {
@@ -320,7 +320,7 @@ public final class ChangeTest {
                 Due.answer("join(" + kind + ", " + t + ", " + t + ")", x.join(kind, t, t), -2);
             }
         }
-        Due.unchanged("refused join", x, before);
+        Due.holds("refused join", x, before);
     }
 
     private static void promise8Complement() {
@@ -347,7 +347,7 @@ public final class ChangeTest {
         for (int t : Due.BAD_TRACKS) {
             Due.answer("complement(" + t + ")", x.complement(t), -1);
         }
-        Due.unchanged("refused complement", x, before);
+        Due.holds("refused complement", x, before);
     }
 
     private static void promise9Copy() {
@@ -361,14 +361,14 @@ public final class ChangeTest {
         Due.answer("a copy has a life of its own", x.size(1), 4);
         String before = Due.state(x);
         Due.answer("copy of itself", x.copy(1, 1), 4);
-        Due.unchanged("copy of itself", x, before);
+        Due.holds("copy of itself", x, before);
 
         for (int t : Due.BAD_TRACKS) {
             Due.answer("copy(" + t + ", 0)", x.copy(t, 0), -1);
             Due.answer("copy(0, " + t + ")", x.copy(0, t), -1);
             Due.answer("copy(" + t + ", " + t + ")", x.copy(t, t), -1);
         }
-        Due.unchanged("refused copy", x, before);
+        Due.holds("refused copy", x, before);
 
         TrackAlgebra y = new TrackAlgebra();
         y.repeat(1, Due.st(0, 5), 1, 32);

@@ -25,10 +25,11 @@ final class Due {
         }
     }
 
-    static void unchanged(String after, TrackAlgebra x, String before) {
+    /** All three tracks are as due: those that an earlier look found, or those of a Tracks. */
+    static void holds(String after, TrackAlgebra x, String due) {
         String now = state(x);
-        if (!now.equals(before)) {
-            tell(after + " made of " + before + " this: " + now);
+        if (!now.equals(due)) {
+            tell("after " + after + " the tracks are " + now + ", due is " + due);
         }
     }
 

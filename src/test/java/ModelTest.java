@@ -25,18 +25,8 @@ public final class ModelTest {
             int method = pick(4) < favour ? pick(2) : pick(METHODS);
             oneCall(run, x, model, method);
             if (n % CALLS_BETWEEN_LOOKS == 0) {
-                look(run, x, model);
+                Due.holds("run " + run, x, Tracks.in(model).text());
             }
-        }
-    }
-
-    private static void look(int run, TrackAlgebra x, Model model) {
-        for (int t = 0; t < 3; t++) {
-            int[] want = new int[model.size(t)];
-            for (int i = 0; i < want.length; i++) {
-                want[i] = model.stretch(t, i);
-            }
-            Due.track("run " + run, x, t, want);
         }
     }
 

@@ -316,6 +316,6 @@ public final class QuestionTest {
                 x.meetings(t, n);
             }
         }
-        Due.unchanged("the questions", x, before);
+        Due.holds("the questions", x, before);
     }
 }
