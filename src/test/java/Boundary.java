@@ -2,6 +2,7 @@ import java.lang.reflect.InvocationTargetException;
 import java.lang.reflect.Method;
 import java.util.Arrays;
 import java.util.HashMap;
+import java.util.List;
 import java.util.Map;
 import java.util.TreeMap;
 import java.util.function.Consumer;
@@ -38,6 +39,8 @@ abstract class Boundary {
 
     /** Each method's arguments, which are tested in this order. */
     static final Map<String, Argument[]> FACE = face();
+    static final List<String> QUESTIONS = List.of("size", "stretch", "overlapping", "overlap", "around", "depth",
+            "deepest", "covered", "closest", "distance", "shared", "meetings");
 
     private static final Map<String, Method> METHODS = new HashMap<>();
     private static String sentence = "no sentence";
@@ -91,6 +94,15 @@ abstract class Boundary {
         }
     }
 
+    /** The same call on the object and on the model, with the same answer. */
+    static void answersLike(Model model, TrackAlgebra x, String method, int... args) {
+        try {
+            answers(x, call(model, method, args), method, args);
+        } catch (InvocationTargetException thrown) {
+            throw new IllegalStateException("the model threw", thrown);
+        }
+    }
+
     /** A call that is refused whatever the tracks hold. */
     static void refuses(int want, String method, int... args) {
         for (Tracks tracks : Tracks.ALL) {
@@ -128,14 +140,19 @@ abstract class Boundary {
             choices *= ofOne.length;
         }
         for (int n = 0; n < choices; n++) {
-            int[] args = new int[values.length];
-            int rest = n;
-            for (int a = 0; a < args.length; a++) {
-                args[a] = values[a][rest % values[a].length];
-                rest /= values[a].length;
-            }
-            use.accept(args);
+            use.accept(choice(values, n));
         }
+    }
+
+    /** The n-th of all choices of one value for each argument; behind the last they begin anew. */
+    static int[] choice(int[][] values, int n) {
+        int[] args = new int[values.length];
+        int rest = n;
+        for (int a = 0; a < args.length; a++) {
+            args[a] = values[a][rest % values[a].length];
+            rest /= values[a].length;
+        }
+        return args;
     }
 
     /** The call on a TrackAlgebra or on a Model. */

@@ -1,12 +1,11 @@
 import java.lang.reflect.InvocationTargetException;
+import java.util.ArrayList;
+import java.util.Collections;
 import java.util.List;
 import java.util.Map;
 
 /** The document's terms, and what it says of all methods at once: each sentence's boundary cases. */
 public final class TermBoundaryTest extends Boundary {
-    private static final List<String> QUESTIONS = List.of("size", "stretch", "overlapping", "overlap", "around",
-            "depth", "deepest", "covered", "closest", "distance", "shared", "meetings");
-
     public static void main(String[] args) {
         positions();
         stretchCovers();
@@ -30,6 +29,7 @@ public final class TermBoundaryTest extends Boundary {
         goodStretches();
         goodNumbers();
         calls512();
+        everyMethodUpToTheLastCall();
         end();
     }
 
@@ -370,5 +370,41 @@ public final class TermBoundaryTest extends Boundary {
         }
         answers(x, 2, "size", 2);
         answers(x, st(31, 32), "stretch", 2, 1);
+    }
+
+    private static void everyMethodUpToTheLastCall() {
+        sentence("An object is used for at most 512 calls: each method answers as due in each of them");
+        List<String> methods = List.copyOf(FACE.keySet());
+        for (int n = 0; n < methods.size(); n++) {
+            List<String> alone = methods.subList(n, n + 1);
+            uses512(Tracks.EMPTY, alone);
+            uses512(Tracks.SOME, alone);
+            // Turned round, each method comes to be the last one once.
+            List<String> turned = new ArrayList<>(methods);
+            Collections.rotate(turned, n);
+            uses512(Tracks.EMPTY, turned);
+            uses512(Tracks.SOME, turned);
+        }
+    }
+
+    /** The methods in turn, each with its good arguments in turn, on one object that is used to its end. */
+    private static void uses512(Tracks tracks, List<String> methods) {
+        TrackAlgebra x = tracks.object();
+        Model model = tracks.model();
+        // Each stretch that is there took a call.
+        int used = tracks.track(0).length + tracks.track(1).length + tracks.track(2).length;
+        for (int n = used; n < 512; n++) {
+            String method = methods.get(n % methods.size());
+            int[] args = choice(goodValues(FACE.get(method)), n / methods.size());
+            answersLike(model, x, method, args);
+        }
+    }
+
+    private static int[][] goodValues(Argument... arguments) {
+        int[][] values = new int[arguments.length][];
+        for (int a = 0; a < arguments.length; a++) {
+            values[a] = arguments[a].good();
+        }
+        return values;
     }
 }
